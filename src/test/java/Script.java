@@ -1,5 +1,6 @@
 import java.lang.reflect.Method;
 import java.util.ArrayList;
+import java.util.Arrays;
 import java.util.List;
 
 /**
@@ -50,7 +51,7 @@ final class Script {
             }
         }
         Class<?>[] types = new Class<?>[arguments.size()];
-        java.util.Arrays.fill(types, int.class);
+        Arrays.fill(types, int.class);
         try {
             Method method = CoordinationService.class.getMethod(name, types);
             return (Integer) method.invoke(service, arguments.toArray());
@@ -68,11 +69,6 @@ final class Script {
         } catch (ReflectiveOperationException e) {
             throw new IllegalStateException(text, e);
         }
-    }
-
-    /** The same call so many times. */
-    static String times(int count, String statement) {
-        return (statement + ";").repeat(count);
     }
 
     /** Clears a path of so many names and sets another one. */
