@@ -340,10 +340,11 @@ public final class CoordinationService {
         return one == null || two == null ? INVALID_ARGUMENT : one.commonLength(two);
     }
 
-    private void startAnew(int servers) {
-        serverTotal = servers;
-        for (Server server : this.servers) {
-            server.startAnew(server.number < servers);
+    private void startAnew(int total) {
+        serverTotal = total;
+        // Servers beyond the total are kept, but stay down for ever: no call can reach them.
+        for (Server server : servers) {
+            server.startAnew(server.number < total);
         }
         sessionTotal = 0;
         watches.dropAll();
@@ -450,7 +451,7 @@ public final class CoordinationService {
         leading.applyUpTo(committed, watches);
     }
 
-    private int propose(int kind, int path, int data, int owner) {
+    private int propose(int kind, int nodePath, int data, int session) {
         if (chief == null) {
             return NOT_POSSIBLE;
         }
@@ -459,7 +460,7 @@ public final class CoordinationService {
         }
         counter++;
         int identifier = IDENTIFIERS_OF_AN_EPOCH * epoch + counter;
-        Transaction transaction = new Transaction(identifier, kind, path, data, owner);
+        Transaction transaction = new Transaction(identifier, kind, nodePath, data, session);
         chief.log.add(transaction);
         proposedTree.carryOut(transaction, watches);
         return identifier;

@@ -11,6 +11,9 @@ import java.util.TreeMap;
 public final class ModelTest {
     private static final int RUNS = 4000;
     private static final int CALLS = 512;
+    /** An object may answer what it likes after 512 calls, but this one goes on, and must not fail. */
+    private static final int LONG_RUNS = 20;
+    private static final int CALLS_OF_A_LONG_RUN = 10_000;
     private static final String[] READERS = {
         "leader", "lastIdentifier", "appliedCount", "committedCount", "acceptedEpoch", "eventCount", "eventAt",
         "dataAt", "versionAt", "ownerAt", "childCount", "nodeCount", "commonLog"
@@ -24,6 +27,7 @@ public final class ModelTest {
     private final TreeMap<String, Integer> answers;
     /** How often each kind of call comes in this run; runs differ in what they are busy with. */
     private final int[] weights = new int[16];
+    private final int limit;
     private int servers = 3;
     private int calls;
     private boolean right = true;
@@ -31,6 +35,7 @@ public final class ModelTest {
     private ModelTest(int run, TreeMap<String, Integer> answers) {
         this.run = run;
         this.answers = answers;
+        limit = run < LONG_RUNS ? CALLS_OF_A_LONG_RUN : CALLS;
         random = new Random(run);
         int[] usual = {1, 10, 20, 20, 20, 80, 40, 60, 20, 80, 40, 20, 8, 4, 40, 80};
         int[] strengths = {0, 1, 2, 2, 4, 8};
@@ -88,7 +93,7 @@ public final class ModelTest {
             servers = 3 + random.nextInt(3);
             call("reset", servers);
         }
-        while (calls < CALLS && right) {
+        while (calls < limit && right) {
             act();
         }
         return right;
@@ -195,7 +200,7 @@ public final class ModelTest {
     }
 
     private void call(String name, int... arguments) {
-        if (!right || calls >= CALLS) {
+        if (!right || calls >= limit) {
             return;
         }
         calls++;

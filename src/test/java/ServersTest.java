@@ -50,6 +50,9 @@ public final class ServersTest {
                 elect() = 2; create(7, NONE) = 1001; accept(1) = 1001; dataAt(2) = 7; ownerAt(2) = NONE; versionAt(2) = 0;
                 eventCount(0) = 0; eventCount(1) = 0; heartbeat(1) = 1; eventCount(0) = 1
                 """);
+        SCRIPT.run("promise 2: no server is active without a leader", """
+                elect() = 2; reset(3) = 3; heartbeat(0) = NOT_POSSIBLE; accept(0) = NOT_POSSIBLE; heartbeat(2) = NOT_POSSIBLE
+                """);
         SCRIPT.run("promise 2: a wrong number changes nothing", """
                 elect() = 2; appendName(1) = 1; create(5, NONE) = 1001; reset(6) = INVALID_ARGUMENT;
                 leader() = 2; clearPath() = 1; lastIdentifier(2) = 1001; reset(3) = 3
@@ -274,6 +277,11 @@ public final class ServersTest {
                 create(1, NONE) = 1001; commonLog(2, 2) = 1; commonLog(0, 2) = 0; accept(0) = 1001; commonLog(0, 2) = 1;
                 commonLog(2, 0) = 1; delete(0) = 1002; commonLog(0, 2) = 1; crash(2) = 2; elect() = 0; delete(0) = 2001;
                 commonLog(0, 2) = 1; commonLog(2, 0) = 1; commonLog(1, 2) = 1; commonLog(0, 0) = 2; lastIdentifier(2) = 1002
+                """);
+        SCRIPT.run("promise 29: logs that differ from the first transaction on", """
+                elect() = 2; appendName(0) = 1; create(1, NONE) = 1001; setData(2, 0) = 1002; crash(2) = 2; elect() = 1;
+                create(1, NONE) = 2001; setData(2, 0) = 2002; commonLog(1, 2) = 0; commonLog(2, 1) = 0; restart(2) = 3;
+                synchronize(2) = 202; commonLog(1, 2) = 2
                 """);
     }
 }
