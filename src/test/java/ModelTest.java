@@ -204,7 +204,7 @@ public final class ModelTest {
             return;
         }
         calls++;
-        int got = answerOf(name, arguments);
+        int got = Calls.answer(service, name, arguments);
         int due = dueOf(name, arguments);
         if (due < 0) {
             answers.merge(name + " " + due, 1, Integer::sum);
@@ -214,40 +214,6 @@ public final class ModelTest {
             right = false;
             System.out.println("run " + run + ": " + String.join("; ", told) + ", but answered " + got);
         }
-    }
-
-    private int answerOf(String name, int[] a) {
-        return switch (name) {
-            case "reset" -> service.reset(a[0]);
-            case "crash" -> service.crash(a[0]);
-            case "restart" -> service.restart(a[0]);
-            case "elect" -> service.elect();
-            case "synchronize" -> service.synchronize(a[0]);
-            case "accept" -> service.accept(a[0]);
-            case "heartbeat" -> service.heartbeat(a[0]);
-            case "leader" -> service.leader();
-            case "lastIdentifier" -> service.lastIdentifier(a[0]);
-            case "appliedCount" -> service.appliedCount(a[0]);
-            case "committedCount" -> service.committedCount();
-            case "acceptedEpoch" -> service.acceptedEpoch(a[0]);
-            case "appendName" -> service.appendName(a[0]);
-            case "clearPath" -> service.clearPath();
-            case "create" -> service.create(a[0], a[1]);
-            case "setData" -> service.setData(a[0], a[1]);
-            case "delete" -> service.delete(a[0]);
-            case "openSession" -> service.openSession();
-            case "closeSession" -> service.closeSession(a[0]);
-            case "watch" -> service.watch(a[0], a[1]);
-            case "eventCount" -> service.eventCount(a[0]);
-            case "eventAt" -> service.eventAt(a[0], a[1]);
-            case "dataAt" -> service.dataAt(a[0]);
-            case "versionAt" -> service.versionAt(a[0]);
-            case "ownerAt" -> service.ownerAt(a[0]);
-            case "childCount" -> service.childCount(a[0]);
-            case "nodeCount" -> service.nodeCount(a[0]);
-            case "commonLog" -> service.commonLog(a[0], a[1]);
-            default -> throw new IllegalArgumentException(name);
-        };
     }
 
     private int dueOf(String name, int[] a) {
