@@ -580,16 +580,20 @@ public final class CoordinationService {
 
         /** Answers 100 times the number of removed transactions plus that of the appended ones. */
         int copyLogOf(Server leading) {
+            // The loops below must not change the log that they read.
+            if (leading == this) {
+                return 0;
+            }
             int common = commonLength(leading);
             int removed = log.size() - common;
-            int appended = leading.log.size() - common;
+            int end = leading.log.size();
             for (int i = log.size() - 1; i >= common; i--) {
                 log.remove(i);
             }
-            for (int i = common; i < leading.log.size(); i++) {
+            for (int i = common; i < end; i++) {
                 log.add(leading.log.get(i));
             }
-            return 100 * removed + appended;
+            return 100 * removed + end - common;
         }
 
         /** Answers the number of transactions that are newly applied. */
