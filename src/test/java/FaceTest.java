@@ -1,12 +1,17 @@
+import java.io.IOException;
 import java.lang.reflect.Constructor;
 import java.lang.reflect.Field;
 import java.lang.reflect.Method;
 import java.lang.reflect.Modifier;
+import java.nio.file.Files;
+import java.nio.file.Path;
 import java.util.Arrays;
 import java.util.TreeSet;
 
 /** The public face of the document: its constants, its constructor and its methods, and nothing else. */
 public final class FaceTest {
+    private static final Path DOCUMENT = Path.of("../shared/DOC.md");
+    private static final Path SOURCE = Path.of("src/main/java/CoordinationService.java");
     private static final String[] METHODS = {
         "reset 1", "crash 1", "restart 1", "elect 0", "synchronize 1", "accept 1", "heartbeat 1", "leader 0",
         "lastIdentifier 1", "appliedCount 1", "committedCount 0", "acceptedEpoch 1", "appendName 1", "clearPath 0",
@@ -20,7 +25,7 @@ public final class FaceTest {
 
     private static boolean right = true;
 
-    public static void main(String[] args) throws ReflectiveOperationException {
+    public static void main(String[] args) throws ReflectiveOperationException, IOException {
         Class<?> face = CoordinationService.class;
         due("the class", Modifier.toString(face.getModifiers()), "public final");
         due("the methods", methodsOf(face), new TreeSet<>(Arrays.asList(METHODS)));
@@ -33,10 +38,32 @@ public final class FaceTest {
             due(inside.getName() + " is static", Modifier.isStatic(inside.getModifiers()), true);
             dueNoFaceName(inside);
         }
+        if (Files.exists(DOCUMENT)) {
+            dueAsWritten(Files.readString(DOCUMENT), Files.readString(SOURCE));
+        }
         System.out.println(right ? "the face is as due" : "the face is not as due");
         if (!right) {
             System.exit(1);
         }
+    }
+
+    /** Each row of the document's face stands in the source, the names of parameters too. */
+    private static void dueAsWritten(String document, String source) {
+        int begin = document.indexOf("public final class CoordinationService {");
+        int end = document.indexOf("```", begin);
+        due("the document's face", begin >= 0 && end > begin, true);
+        if (begin < 0 || end < begin) {
+            return;
+        }
+        int rows = 0;
+        for (String row : document.substring(begin, end).lines().toList()) {
+            if (row.endsWith(";")) {
+                rows++;
+                due(row, source.contains("\n" + row.replaceFirst("\\);$", ") {") + "\n"), true);
+            }
+        }
+        // NONE and ANY_VERSION share a row, and so do the three kinds of events; one row is the constructor's.
+        due("the rows of the document's face", rows, METHODS.length + CONSTANTS.length - 3 + 1);
     }
 
     private static TreeSet<String> methodsOf(Class<?> face) {
