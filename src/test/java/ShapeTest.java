@@ -50,6 +50,10 @@ public final class ShapeTest extends TreePathScanner<Void, Void> {
 
     public static void main(String[] args) throws IOException {
         JavaCompiler compiler = ToolProvider.getSystemJavaCompiler();
+        if (compiler == null) {
+            System.out.println("this java has no compiler inside: the shape is not looked at");
+            return;
+        }
         try (StandardJavaFileManager files = compiler.getStandardFileManager(null, null, null)) {
             JavacTask task = (JavacTask) compiler.getTask(null, files, null, null, null, files.getJavaFileObjects(SOURCE));
             List<CompilationUnitTree> units = new ArrayList<>();
